@@ -1,0 +1,45 @@
+/** Counts the answers that are not as due and tells each of them. */
+final class Check {
+    private final String name;
+    private int asked = 0;
+    private int wrong = 0;
+
+    Check(String name) {
+        this.name = name;
+    }
+
+    void due(String call, long got, long want) {
+        asked++;
+        if (got != want) {
+            wrong++;
+            System.out.println(name + ": " + call + " answered " + got + ", due is " + want);
+        }
+    }
+
+    /** Tells the sum and ends with exit code 1 if an answer was wrong. */
+    void end() {
+        System.out.println(name + ": " + asked + " answers, " + wrong + " not as due");
+        if (wrong != 0 || asked == 0) {
+            System.exit(1);
+        }
+    }
+
+    static WalkingTown townOf(String text) {
+        WalkingTown x = new WalkingTown();
+        retype(x, 0, text);
+        return x;
+    }
+
+    static void retype(WalkingTown x, int text, String bytes) {
+        x.wipe(text);
+        for (int i = 0; i < bytes.length(); i++) {
+            x.type(text, bytes.charAt(i));
+        }
+    }
+
+    static void winds(WalkingTown x, int... winds) {
+        for (int week = 0; week < winds.length; week++) {
+            x.wind(week, winds[week]);
+        }
+    }
+}
