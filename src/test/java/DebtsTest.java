@@ -171,6 +171,8 @@ final class DebtsTest {
         check.due("stone(0, 51, 1, 1, 0)", x.stone(0, 51, 1, 1, 0), 566);
         check.due("stone(0, 51, 0, 0, 1)", x.stone(0, 51, 0, 0, 1), NONE);
         check.due("stone(0, 51, 0, 1, 1)", x.stone(0, 51, 0, 1, 1), 999);
+        check.due("stone(99, 51, 9, 9, 0), the last row", x.stone(99, 51, 9, 9, 0), 51);
+        check.due("stone(99, 0, 0, 9, 1), the last row", x.stone(99, 0, 0, 9, 1), 999);
     }
 
     /** Whether winds of a to b can bring m weeks' sand that leaves the stone bare ahead of the first of them. */

@@ -187,6 +187,15 @@ final class ModelTest {
     }
 
     private void fixedDigests() {
+        // beside one another behind 13 moves only: one more than the digest asks for
+        x = Check.townOf("t000;s113");
+        x.owed(0, 1);
+        check.due("broken(12, 1)", x.broken(12, 1), 0);
+        check.due("broken(13, 1)", x.broken(13, 1), 13);
+        model = new Model();
+        model.townText = "t000;s113";
+        model.pairs.add(new int[] {0, 1});
+        check.due("digest() with broken(12, 1)", x.digest(), model.digest());
         x = Check.townOf("c097;t000");
         Check.winds(x, 9);
         x.wind(51, 9);
