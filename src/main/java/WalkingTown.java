@@ -34,8 +34,8 @@ public final class WalkingTown {
     private static final int NULL_FOUND = 1, INDEX_FOUND = 2, CAST_FOUND = 3, STORE_FOUND = 4, SIZE_FOUND = 5;
 
     /** A refusal -x is told as this and x more, where the answer is a long. */
-    private static final long LEAST_LONG = Long.MIN_VALUE;
-    private static final int LEAST_INT = Integer.MIN_VALUE;
+    private static final long LEAST_LONG = 1L << 63;
+    private static final int LEAST_INT = 1 << 31;
     /** A refusal -x is told as this less x, where any number is told. */
     private static final int BELOW_ANY = -10000;
 
@@ -1046,9 +1046,10 @@ public final class WalkingTown {
         private int size = 0;
 
         Marks(int most) {
-            columns = new int[most];
-            rows = new int[most];
-            amounts = new int[most];
+            int length = Math.max(0, most);
+            columns = new int[length];
+            rows = new int[length];
+            amounts = new int[length];
         }
 
         boolean add(int column, int row, int amount) {
