@@ -1,4 +1,4 @@
-/** Runs of calls by a fixed row of numbers, each answer set beside the Model's; promises 2 to 26 and 36. */
+/** Runs of calls by a fixed row of numbers, each answer set beside the Model's; promises 2, 4 to 8, 11 to 25 and 36. */
 final class ModelTest {
     private static final int RUNS = 400;
 
