@@ -1,3 +1,5 @@
+import java.util.function.IntToLongFunction;
+
 /** Counts the answers that are not as due and tells each of them. */
 final class Check {
     private final String name;
@@ -13,6 +15,18 @@ final class Check {
         if (got != want) {
             wrong++;
             System.out.println(name + ": " + call + " answered " + got + ", due is " + want);
+        }
+    }
+
+    /** A number that a call takes: the least and the most are taken, those next to them and the farthest are not. */
+    void range(String call, int least, int most, long refusal, IntToLongFunction asked) {
+        int[] taken = {least, most};
+        int[] refused = {least - 1, most + 1, Integer.MIN_VALUE, Integer.MAX_VALUE};
+        for (int v : taken) {
+            due(call + " takes " + v + " and does not refuse it", asked.applyAsLong(v) == refusal ? 1 : 0, 0);
+        }
+        for (int v : refused) {
+            due(call + " with " + v, asked.applyAsLong(v), refusal);
         }
     }
 

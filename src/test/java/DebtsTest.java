@@ -67,9 +67,9 @@ final class DebtsTest {
     }
 
     private void church() {
-        WalkingTown x = new WalkingTown();
         for (int c = 1; c <= 999; c += 7) {
             for (int hands = 0; hands <= 999; hands += 9) {
+                WalkingTown x = new WalkingTown();
                 int[] weeks = {0, 3, 7, 8, 9, 51};
                 for (int week : weeks) {
                     int few = NONE;
@@ -84,6 +84,7 @@ final class DebtsTest {
                 }
             }
         }
+        WalkingTown x = new WalkingTown();
         check.due("church(0, 1, 1)", x.church(0, 1, 1), BAD);
         check.due("church(1000, 1, 1)", x.church(1000, 1, 1), BAD);
         check.due("church(1, -1, 1)", x.church(1, -1, 1), BAD);
@@ -126,10 +127,10 @@ final class DebtsTest {
     }
 
     private void likelyByCounting() {
-        WalkingTown x = new WalkingTown();
         for (int begin = 0; begin < 8; begin += 3) {
-            x.set(0, begin);
             for (int k = 0; k <= 9; k++) {
+                WalkingTown x = new WalkingTown();
+                x.set(0, begin);
                 for (int n = 0; n <= 3; n++) {
                     for (int row = 0; row < 40; row++) {
                         long above = waysOver(k, n, begin, row);
@@ -188,9 +189,9 @@ final class DebtsTest {
     }
 
     private void stoneByTrying() {
-        WalkingTown x = new WalkingTown();
-        x.set(0, 30);
         for (int row = 0; row <= 31; row++) {
+            WalkingTown x = new WalkingTown();
+            x.set(0, 30);
             for (int a = 0; a <= 9; a++) {
                 for (int b = a; b <= 9; b++) {
                     int first = NONE;
