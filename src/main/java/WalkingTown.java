@@ -59,7 +59,6 @@ public final class WalkingTown {
         for (int s = 0; s < SHEETS; s++) {
             sheets[s] = new Sheet();
         }
-        walk.plan(town);
     }
 
     // ---- winds, texts
@@ -889,6 +888,13 @@ public final class WalkingTown {
         private final int[] greatest = new int[MOST_MOVES];
         private final Stand stand = new Stand();
         private int size = 0;
+
+        /** It stands as planned without HOUSES, so that who makes one need not hand it a TOWN. */
+        Walk() {
+            movers[0] = NONE;
+            least[0] = NO_ROW;
+            greatest[0] = NONE;
+        }
 
         void plan(Town town) {
             stand.begin(town);

@@ -9,6 +9,7 @@ import java.util.ArrayList;
 import java.util.Arrays;
 import java.util.List;
 import java.util.TreeSet;
+import java.util.regex.Matcher;
 import java.util.regex.Pattern;
 
 /** The public face, the rules of LANGUAGE.md that can be seen from outside, the room, and any arguments at all. */
@@ -108,6 +109,10 @@ final class FaceTest {
             }
         }
         check.due("made outside constructors: " + made, made.size(), 0);
+        Matcher constructor = Pattern.compile("(?s)public WalkingTown\\(\\) \\{(.*?)\n    \\}").matcher(code);
+        check.due("the constructor is found", constructor.find() ? 1 : 0, 1);
+        check.due("the constructor hands out nothing: it calls no method",
+                Pattern.compile("(?<!new )\\b(?!for\\b)\\w+\\(").matcher(constructor.group(1)).results().count(), 0);
     }
 
     private static Object[] arguments(int many, int[] wild, int number) {
